@@ -143,6 +143,8 @@ public final class HoursTest {
         Check.play(x, "hour;hour 0 0 1 0 2 0 3 90;");
         Check.due("the first hour is no more kept", x.size(14) + " " + x.size(2) + " " + told(x, 24), "1 24 7 7 1 4 8 0");
         Check.due("its SINCE", x.buoy(3, 7), 0);
+        Check.play(x, "hour;".repeat(23) + "hour 0 0 1 0 2 0;");
+        Check.due("later hours have nothing of it", told(x, 48), "7 7 1 3 0 0");
     }
 
     private static void retoldWithToleranceOfNow() {
@@ -185,6 +187,11 @@ public final class HoursTest {
     }
 
     private static void limits() {
+        BuoyString y = Check.loaded("terms 5 2 1;buoy 0 1 0;buoy 1 1 9;rope 0 1;");
+        y.storm(2, 0, 1);
+        Check.due("buoy 0 drifts", y.buoy(0, 4) + " " + y.buoy(1, 4), "1 0");
+        Check.play(y, "hour 0 5 1 0;");
+        Check.due("CALM is reached at once", y.buoy(0, 4) + " " + y.buoy(0, 6) + " " + y.why(0, 0), "0 0 2");
         BuoyString x = Check.loaded(FIVE);
         x.setTerms(5, 9, 2);
         Check.play(x, "hour 0 0 1 0 2 0 3 90;hour 0 0 1 0 2 0 3 90;");
@@ -255,6 +262,7 @@ public final class HoursTest {
         BuoyString y = Check.loaded("terms 5 9 9;buoy 0 1 9;buoy 1 1 9;buoy 2 1 9;");
         Check.play(y, "hour 0 0 1 9 2 20;");
         Check.due("agreement() of an hour without a level", y.agreement(0), 1.0f / 3.0f);
+        Check.due("needed() of three that differ", y.needed(0), 7);
         Check.refused("agreement(1)", Check.INDEX, () -> y.agreement(1));
         Check.refused("agreement(-1)", Check.INDEX, () -> y.agreement(-1));
     }
@@ -322,6 +330,10 @@ public final class HoursTest {
             x.endHour();
             int first = Math.max(0, h - 23);
             Check.due("kept hours", x.size(2), h - first + 1);
+            Check.due("extremes of the kept hours", x.extreme(true) + " " + x.extreme(false), first + " " + h);
+            if (h > first) {
+                Check.due("tide() behind the earliest one", x.tide(first + 1), 1);
+            }
             Check.due("the earliest and the latest", x.level(first) + " " + x.level(h), first + " " + h);
             Check.refused("an hour that is no more kept", Check.INDEX, () -> x.level(first - 1));
             int next = h + 1;

@@ -54,9 +54,19 @@ public final class TextsTest {
         BuoyString near = new BuoyString();
         Check.due("499 bytes", Check.type(near, " ".repeat(499)), 499);
         Check.refused("two bytes more", Check.STATE, () -> near.append(0, 0, 0, 0, 0x3b3b));
+        Check.refused("two bytes in two numbers", Check.STATE, () -> near.append(0x3b00, 0, 0, 0x3b, 0));
+        Check.refused("two bytes in two numbers", Check.STATE, () -> near.append(0, 0x3b0000, 0x3b, 0, 0));
+        Check.refused("two bytes in two numbers", Check.STATE, () -> near.append(0, 0x3b3b, 0, 0, 0));
+        Check.refused("two bytes in two numbers", Check.STATE, () -> near.append(0, 0, 0, 0x3b00003b, 0));
         Check.due("nothing was appended", near.append(0, 0, 0, 0, 0), 499);
         Check.due("one byte more", near.append(0x3b000000, 0, 0, 0, 0), 500);
         Check.due("load() of it", near.load() + " " + near.errorPosition(), "-1 499");
+
+        BuoyString most = new BuoyString();
+        Check.due("500 tokens", Check.type(most, "-".repeat(500)), 500);
+        Check.due("play() of them", most.play() + " " + most.errorCode() + " " + most.errorPosition(), "-1 1 0");
+        Check.due("500 tokens", Check.type(most, "1;".repeat(250)), 500);
+        Check.due("load() of them", most.load() + " " + most.errorCode() + " " + most.errorPosition(), "-1 1 0");
 
         BuoyString high = new BuoyString();
         Check.due("bytes above 127", high.append(-1, 0x80808080, 0, 0, 0), 8);
@@ -195,6 +205,11 @@ public final class TextsTest {
         Check.due("play() of an empty text", x.play() + " " + x.errorCode() + " " + x.errorPosition(), "0 0 -1");
         Check.due("an hour with the reports that there are", Check.play(x, "hour 0 5;"), 1);
         Check.due("the reports of both", x.hour(1, 3), 2);
+        BuoyString ten = Check.loaded("terms 9 1 1;buoy 0 1 1;buoy 1 1 1;buoy 2 1 1;buoy 3 1 1;buoy 4 1 1;"
+                + "buoy 5 1 1;buoy 6 1 1;buoy 7 1 1;buoy 8 1 1;buoy 9 1 1;");
+        Check.due("an hour of all ten", Check.play(ten, "hour 9 9 0 0 1 1 2 2 3 3 4 4 5 5 6 6 7 7 8 8;") + " "
+                + ten.hour(0, 3) + " " + ten.level(0), "1 10 4");
+        Check.playError(ten, "hour 9 9 0 0 1 1 2 2 3 3 4 4 5 5 6 6 7 7 8 8 4 4;", 3, 45);
         BuoyString y = new BuoyString();
         Check.due("40 commands", Check.play(y, "hour;".repeat(40)), 40);
         Check.due("40 hours", y.size(1), 40);
@@ -205,7 +220,12 @@ public final class TextsTest {
         Check.due("a refused plan", Check.play(x, "plan 9;plan 10;stock 5;"), 1);
         Check.due("its account", x.account(3) + " " + x.account(0) + " " + x.size(7), "1 1 0");
         Check.due("a refused remake", Check.play(x, "remake 0;stock 5;"), 0);
-        Check.due("its account", x.account(1) + " " + x.size(7), "1 0");
+        Check.due("a plan that is refused for its force", Check.play(x, "stock 1;plan 1;plan 99;hour;"), 2);
+        x.undo();
+        x.undo();
+        Check.due("acts that answer 0 are done", Check.play(x, "stock 100;storm 1 0 0;storm 1 0 1;remake 0;plan 1;"), 5);
+        Check.due("the stock", x.size(7), 0);
+        Check.due("its account", x.account(1) + " " + x.account(3) + " " + x.size(7), "1 2 0");
         Check.due("a refused stock", Check.play(x, "stock 9999;".repeat(11) + "hour;"), 10);
         Check.due("its account", x.account(4) + " " + x.size(7) + " " + x.size(1), "1 99990 0");
         Check.due("a remake without rope", Check.play(x, "storm 1 0 1;remake 0;storm 50 0 1;"), 3);
@@ -257,6 +277,11 @@ public final class TextsTest {
         Check.playError(x, "hour;!", 1, 5);
         Check.playError(x, "hour,", 1, 4);
         Check.playError(x, "HOUR;", 1, 0);
+        Check.playError(x, "hourz;", 1, 0);
+        Check.playError(x, "houra;", 1, 0);
+        Check.playError(x, "xour;", 1, 0);
+        Check.playError(x, "hovr;", 1, 0);
+        Check.playError(x, "hous;", 1, 0);
         Check.playError(x, "hour\r;", 1, 4);
         Check.playError(x, "hour{", 1, 4);
         Check.playError(x, "hour`", 1, 4);

@@ -117,6 +117,40 @@ public final class UndoTest {
         x.haul(3);
         x.undo();
         Check.due("undo() of haul()", Check.world(x), world);
+        x.haul(3);
+        Check.play(x, "hour 0 4 1 0 2 0 3 3;");
+        Check.due("it agreed", x.buoy(3, 6), 1);
+        world = Check.world(x);
+        x.storm(99, 3, 3);
+        Check.due("it drifts", x.buoy(3, 6), 0);
+        x.undo();
+        Check.due("undo() of storm()", Check.world(x), world);
+        undoOfHoursThatTakeThePlaceOfOthers();
+    }
+
+    private static void undoOfHoursThatTakeThePlaceOfOthers() {
+        BuoyString x = Check.loaded("terms 5 1 2;buoy 0 1 9;buoy 1 1 9;buoy 2 1 0;buoy 3 1 9;rope 1 1;rope 2 1;");
+        x.storm(2, 1, 3);
+        Check.play(x, "hour 0 0 1 0 2 9 3 90;hour 0 0 1 0 2 9 3 0;hour;" + "hour 0 1 1 1;".repeat(21));
+        Check.due("buoys and hours", Check.string(x) + " " + x.size(2), "0T-1T 2S 3D 24");
+        String world = Check.world(x);
+        x.save(0);
+        x.haul(3);
+        Check.play(x, "hour 0 50 1 60 2 4;hour 3 4;hour 0 5 1 6 2 7 3 8;hour 0 5 1 6 2 7 3 8;");
+        Check.due("they are trusted again", Check.string(x), "0T-1T 2T 3T");
+        String later = Check.world(x);
+        x.save(1);
+        x.restore(0);
+        Check.due("restore(0)", Check.world(x), world);
+        x.haul(3);
+        x.report(2, 5);
+        x.endHour();
+        x.undo();
+        x.undo();
+        x.undo();
+        Check.due("undo()", Check.world(x), world);
+        x.restore(1);
+        Check.due("restore(1)", Check.world(x), later);
     }
 
     private static void doAct(BuoyString x, int act) {
