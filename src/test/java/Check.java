@@ -53,7 +53,7 @@ final class Check {
     static BuoyString loaded(String setup) {
         BuoyString x = new BuoyString();
         type(x, setup);
-        due("load() of " + setup, x.errorCode() + x.load() >= 2, true);
+        due("load() of " + setup, x.load() >= 2, true);
         return x;
     }
 

@@ -330,7 +330,9 @@ public final class ModelTest {
             compareForce(force(), buoy(), buoy());
         }
         check("output", () -> Check.written(x, m.output.length()), () -> m.output);
-        check("output(-1)", () -> x.output(-1), () -> x.output(m.output.length()));
+        compare("output(-1)", Check.answer(() -> x.output(-1)), "throws java.lang.IndexOutOfBoundsException");
+        compare("output(its length)", Check.answer(() -> x.output(m.output.length())),
+                "throws java.lang.IndexOutOfBoundsException");
     }
 
     private void compareBuoy(int b) {
