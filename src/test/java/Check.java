@@ -7,6 +7,9 @@ final class Check {
 
     private static int checked = 0;
     private static int wrong = 0;
+    // the sentence of the document that is tested now, and the number of answers ahead of its test
+    private static String sentence = "";
+    private static int checkedAhead = -1;
 
     interface Call {
         Object answer();
@@ -19,7 +22,21 @@ final class Check {
         checked++;
         if (!String.valueOf(got).equals(String.valueOf(want))) {
             wrong++;
-            System.out.println(call + " answered " + got + ", due is " + want);
+            System.out.println(sentence + call + " answered " + got + ", due is " + want);
+        }
+    }
+
+    /** Begins the test of a sentence that stands in this section or promise; one without answers is wrong. */
+    static void edge(String where, String itsSentence) {
+        endOfSentence();
+        sentence = where + ", \"" + itsSentence + "\":\n    ";
+        checkedAhead = checked;
+    }
+
+    private static void endOfSentence() {
+        if (checked == checkedAhead) {
+            wrong++;
+            System.out.println(sentence + "nothing was tested");
         }
     }
 
@@ -55,6 +72,19 @@ final class Check {
         type(x, setup);
         due("load() of " + setup, x.load() >= 2, true);
         return x;
+    }
+
+    /** A setup of buoys with a VOTE of 1 and a HOLD of 9, one behind the other; TOLERANCE 5, LIMIT 2, CALM 2. */
+    static String setupOf(int buoys) {
+        StringBuilder setup = new StringBuilder("terms 5 2 2;");
+        for (int b = 0; b < buoys; b++) {
+            setup.append("buoy ").append(b).append(" 1 9;");
+        }
+        return setup.toString();
+    }
+
+    static BuoyString stringOf(int buoys) {
+        return loaded(setupOf(buoys));
     }
 
     static int play(BuoyString x, String script) {
@@ -96,6 +126,43 @@ final class Check {
         return written(x, x.writeHours());
     }
 
+    /** What hour(hour, 0 to 4) and level(hour) tell; a question mark for no level. */
+    static String told(BuoyString x, int hour) {
+        return x.hour(hour, 0) + " " + x.hour(hour, 1) + " " + x.hour(hour, 2) + " " + x.hour(hour, 3) + " "
+                + x.hour(hour, 4) + " " + (x.hour(hour, 2) == 1 ? "" + x.level(hour) : "?");
+    }
+
+    /** Ends an hour with these reports, and looks at what is told of it. */
+    static void hour(BuoyString x, String reports, String want) {
+        play(x, "hour " + reports + ";");
+        due("the hour " + reports, told(x, x.size(1) - 1), want);
+    }
+
+    /** Numbers that buoy() tells, with spaces between them. */
+    static String buoy(BuoyString x, int buoy, int... whats) {
+        StringBuilder all = new StringBuilder();
+        for (int what : whats) {
+            all.append(all.length() == 0 ? "" : " ").append(x.buoy(buoy, what));
+        }
+        return all.toString();
+    }
+
+    /** A string with a dragged buoy, a broken rope, a worn one, two hours, a report, an output and a saved state. */
+    static BuoyString usedString() {
+        BuoyString x = loaded("terms 5 2 2;buoy 0 1 9;buoy 10 1 9;buoy 30 1 9;buoy 60 1 9;stock 25;");
+        play(x, "hour 0 0 1 0 2 0 3 50;hour 0 0 1 0 2 0 3 50;storm 11 2 3;storm 3 0 1;");
+        x.report(0, 5);
+        x.save(0);
+        x.writeString();
+        due("the string", string(x), "0T-1T-2T 3D");
+        return x;
+    }
+
+    /** The accounts, with spaces between them. */
+    static String accounts(BuoyString x) {
+        return x.account(0) + " " + x.account(1) + " " + x.account(2) + " " + x.account(3) + " " + x.account(4);
+    }
+
     /** All numbers that size(), buoy(), rope(), account() and hour() tell. */
     static String everything(BuoyString x) {
         StringBuilder all = new StringBuilder();
@@ -133,15 +200,20 @@ final class Check {
         return all.toString();
     }
 
+    static String allButAccounts(BuoyString x) {
+        return everything(x).replaceAll("\naccounts[^\n]*", "");
+    }
+
     /** What undo() brings back: everything but the accounts and the number of acts that can be undone. */
     static String world(BuoyString x) {
-        String all = everything(x).replaceAll("\naccounts[^\n]*", "");
+        String all = allButAccounts(x);
         String[] sizes = all.substring(0, all.indexOf('\n')).split(" ");
         sizes[12] = "-";
         return String.join(" ", sizes) + all.substring(all.indexOf('\n'));
     }
 
     static void end(String name) {
+        endOfSentence();
         System.out.println(name + ": " + checked + " answers, " + wrong + " wrong");
         if (wrong > 0) {
             System.exit(1);

@@ -22,47 +22,37 @@ public final class HoursTest {
         Check.end("HoursTest");
     }
 
-    private static String told(BuoyString x, int hour) {
-        return x.hour(hour, 0) + " " + x.hour(hour, 1) + " " + x.hour(hour, 2) + " " + x.hour(hour, 3) + " "
-                + x.hour(hour, 4) + " " + (x.hour(hour, 2) == 1 ? "" + x.level(hour) : "?");
-    }
-
-    private static void hour(BuoyString x, String reports, String want) {
-        Check.play(x, "hour " + reports + ";");
-        Check.due("the hour " + reports, told(x, x.size(1) - 1), want);
-    }
-
     private static void middleAndSupporters() {
         BuoyString x = Check.loaded("terms 5 9 9;buoy 0 1 9;buoy 1 1 9;buoy 2 2 9;buoy 3 3 9;");
-        hour(x, "", "0 0 0 0 0 ?");
-        hour(x, "1 -50", "2 2 1 1 0 -50");
+        Check.hour(x, "", "0 0 0 0 0 ?");
+        Check.hour(x, "1 -50", "2 2 1 1 0 -50");
         // half of the votes is enough for the middle, but not for a level
-        hour(x, "0 0 1 50", "3 1 0 2 0 ?");
-        hour(x, "0 6 1 0", "3 2 0 2 0 ?");
-        hour(x, "0 5 1 0", "3 3 1 2 0 2");
+        Check.hour(x, "0 0 1 50", "3 1 0 2 0 ?");
+        Check.hour(x, "0 6 1 0", "3 2 0 2 0 ?");
+        Check.hour(x, "0 5 1 0", "3 3 1 2 0 2");
         // 2 of 7 votes up to 5, 4 up to 10: the middle is 10, and the 16 of buoy 3 is too far
-        hour(x, "0 10 1 10 2 5 3 16", "15 7 1 4 0 7");
-        hour(x, "0 10 1 10 2 5 3 15", "15 15 1 4 0 10");
+        Check.hour(x, "0 10 1 10 2 5 3 16", "15 7 1 4 0 7");
+        Check.hour(x, "0 10 1 10 2 5 3 15", "15 15 1 4 0 10");
         // values that are equal count together
-        hour(x, "0 7 1 7 2 7 3 900", "15 7 1 4 0 7");
+        Check.hour(x, "0 7 1 7 2 7 3 900", "15 7 1 4 0 7");
         // 2 of 4 votes support it, not more than half
-        hour(x, "0 0 1 5 2 11", "7 3 0 3 0 ?");
-        hour(x, "0 0 1 5 2 10", "7 7 1 3 0 6");
+        Check.hour(x, "0 0 1 5 2 11", "7 3 0 3 0 ?");
+        Check.hour(x, "0 0 1 5 2 10", "7 7 1 3 0 6");
     }
 
     private static void roundsDown() {
         BuoyString x = Check.loaded("terms 999 9 9;buoy 0 1 9;buoy 1 1 9;buoy 2 9 9 -99;");
-        hour(x, "0 -1 1 -2", "3 3 1 2 0 -2");
-        hour(x, "0 1 1 2", "3 3 1 2 0 1");
-        hour(x, "0 0 1 -1", "3 3 1 2 0 -1");
-        hour(x, "2 9999", "4 4 1 1 0 10098");
+        Check.hour(x, "0 -1 1 -2", "3 3 1 2 0 -2");
+        Check.hour(x, "0 1 1 2", "3 3 1 2 0 1");
+        Check.hour(x, "0 0 1 -1", "3 3 1 2 0 -1");
+        Check.hour(x, "2 9999", "4 4 1 1 0 10098");
         x.setOffset(2, 99);
-        hour(x, "2 -9999", "4 4 1 1 0 -10098");
+        Check.hour(x, "2 -9999", "4 4 1 1 0 -10098");
         Check.due("value()", x.value(4, 2) + " " + x.value(3, 2) + " " + x.value(0, 1), "-10098 10098 -2");
         // 9 times 10 and twice 0 in 11 votes
         x.setOffset(2, 0);
-        hour(x, "0 0 1 0 2 10", "7 7 1 3 0 8");
-        hour(x, "0 0 1 0 2 -10", "7 7 1 3 0 -9");
+        Check.hour(x, "0 0 1 0 2 10", "7 7 1 3 0 8");
+        Check.hour(x, "0 0 1 0 2 -10", "7 7 1 3 0 -9");
     }
 
     private static void strikes() {
@@ -94,23 +84,23 @@ public final class HoursTest {
     private static void takenOut() {
         BuoyString x = Check.loaded(FIVE);
         x.setTerms(5, 3, 2);
-        hour(x, "0 0 1 0 2 0 3 90", "15 7 1 4 0 0");
-        hour(x, "0 0 1 0 2 0 3 3", "15 15 1 4 0 0");
-        hour(x, "0 0 1 0 2 0 3 90 4 80", "31 7 1 5 0 0");
+        Check.hour(x, "0 0 1 0 2 0 3 90", "15 7 1 4 0 0");
+        Check.hour(x, "0 0 1 0 2 0 3 3", "15 15 1 4 0 0");
+        Check.hour(x, "0 0 1 0 2 0 3 90 4 80", "31 7 1 5 0 0");
         // no level: no strike, but its votes will be taken back here, too, and then there is a level
-        hour(x, "0 5 3 90", "9 1 0 2 0 ?");
-        hour(x, "0 0 1 0 2 0 3 90", "15 7 1 4 0 0");
+        Check.hour(x, "0 5 3 90", "9 1 0 2 0 ?");
+        Check.hour(x, "0 0 1 0 2 0 3 90", "15 7 1 4 0 0");
         Check.due("not told anew yet", x.size(14), 0);
-        hour(x, "0 0 1 0 2 0 3 90 4 80", "23 7 1 5 8 0");
+        Check.hour(x, "0 0 1 0 2 0 3 90 4 80", "23 7 1 5 8 0");
         Check.due("told anew", x.size(14), 4);
-        Check.due("an hour ahead of its SINCE", told(x, 0), "15 7 1 4 0 0");
-        Check.due("the hour when it agreed", told(x, 1), "15 15 1 4 0 0");
-        Check.due("its first hour", told(x, 2), "23 7 1 5 8 0");
-        Check.due("the hour that had no level", told(x, 3), "1 1 1 2 8 5");
-        Check.due("its second hour", told(x, 4), "7 7 1 4 8 0");
+        Check.due("an hour ahead of its SINCE", Check.told(x, 0), "15 7 1 4 0 0");
+        Check.due("the hour when it agreed", Check.told(x, 1), "15 15 1 4 0 0");
+        Check.due("its first hour", Check.told(x, 2), "23 7 1 5 8 0");
+        Check.due("the hour that had no level", Check.told(x, 3), "1 1 1 2 8 5");
+        Check.due("its second hour", Check.told(x, 4), "7 7 1 4 8 0");
         Check.due("strikes of the others stay", x.buoy(4, 5) + " " + x.buoy(4, 7) + " " + x.buoy(0, 5), "2 2 0");
-        hour(x, "0 0 1 0 2 0 3 90 4 80", "7 7 1 5 16 0");
-        Check.due("both are out", told(x, 2) + ", " + told(x, 5), "7 7 1 5 24 0, 7 7 1 5 24 0");
+        Check.hour(x, "0 0 1 0 2 0 3 90 4 80", "7 7 1 5 16 0");
+        Check.due("both are out", Check.told(x, 2) + ", " + Check.told(x, 5), "7 7 1 5 24 0, 7 7 1 5 24 0");
         Check.due("told anew once more", x.size(14) + " " + x.size(5), "7 2");
         Check.due("values stay", x.value(2, 3) + " " + x.value(6, 3), "90 90");
 
@@ -121,12 +111,12 @@ public final class HoursTest {
             y.report(b, b == 3 ? 9 : b == 4 ? -9 : 0);
         }
         Check.due("endHour() that drags two", y.endHour(), 2);
-        Check.due("told anew", y.size(14) + " " + told(y, 0), "2 7 7 1 5 24 0");
+        Check.due("told anew", y.size(14) + " " + Check.told(y, 0), "2 7 7 1 5 24 0");
 
         // a level can be lost: ahead of (7) the middle is 5, behind it 7
         BuoyString z = Check.loaded("terms 5 2 2;buoy 0 3 9;buoy 1 1 9;buoy 2 3 9;buoy 3 2 9;buoy 4 1 9;");
-        hour(z, "0 0 1 0 2 0 3 0 4 90", "31 15 1 5 0 0");
-        hour(z, "0 0 1 5 2 7 3 13 4 -100", "15 6 0 5 16 ?");
+        Check.hour(z, "0 0 1 0 2 0 3 0 4 90", "31 15 1 5 0 0");
+        Check.hour(z, "0 0 1 5 2 7 3 13 4 -100", "15 6 0 5 16 ?");
         Check.due("strikes are those of the level that it had", z.buoy(0, 5) + " " + z.buoy(2, 5) + " " + z.buoy(3, 5)
                 + " " + z.buoy(3, 7) + " " + z.size(13), "0 0 1 1 1");
         Check.due("why()", z.why(1, 0) + " " + z.why(1, 1) + " " + z.why(1, 4), "6 6 5");
@@ -138,51 +128,51 @@ public final class HoursTest {
         Check.due("its first hour is the earliest one", x.size(1) + " " + x.size(2) + " " + x.buoy(3, 7), "23 23 0");
         x.save(0);
         Check.play(x, "hour 0 0 1 0 2 0 3 90;");
-        Check.due("both hours are kept", told(x, 0) + ", " + x.size(14), "7 7 1 4 8 0, 2");
+        Check.due("both hours are kept", Check.told(x, 0) + ", " + x.size(14), "7 7 1 4 8 0, 2");
         x.restore(0);
         Check.play(x, "hour;hour 0 0 1 0 2 0 3 90;");
-        Check.due("the first hour is no more kept", x.size(14) + " " + x.size(2) + " " + told(x, 24), "1 24 7 7 1 4 8 0");
+        Check.due("the first hour is no more kept", x.size(14) + " " + x.size(2) + " " + Check.told(x, 24), "1 24 7 7 1 4 8 0");
         Check.due("its SINCE", x.buoy(3, 7), 0);
         Check.play(x, "hour;".repeat(23) + "hour 0 0 1 0 2 0;");
-        Check.due("later hours have nothing of it", told(x, 48), "7 7 1 3 0 0");
+        Check.due("later hours have nothing of it", Check.told(x, 48), "7 7 1 3 0 0");
     }
 
     private static void retoldWithToleranceOfNow() {
         BuoyString x = Check.loaded(FIVE);
-        hour(x, "0 0 1 4 2 5 3 90", "15 7 1 4 0 3");
+        Check.hour(x, "0 0 1 4 2 5 3 90", "15 7 1 4 0 3");
         x.setTerms(0, 2, 2);
-        Check.due("nothing else changes at once", told(x, 0), "15 7 1 4 0 3");
-        hour(x, "0 0 1 0 2 0 3 90", "7 7 1 4 8 0");
-        Check.due("the hour told anew", told(x, 0), "7 2 0 4 8 ?");
+        Check.due("nothing else changes at once", Check.told(x, 0), "15 7 1 4 0 3");
+        Check.hour(x, "0 0 1 0 2 0 3 90", "7 7 1 4 8 0");
+        Check.due("the hour told anew", Check.told(x, 0), "7 2 0 4 8 ?");
         Check.due("why()", x.why(0, 1) + " " + x.why(0, 3), "6 5");
         x.setTerms(9, 1, 2);
-        hour(x, "0 10 1 20 2 20 4 20", "22 22 1 4 1 20");
-        Check.due("an hour ahead of its SINCE", told(x, 0), "7 2 0 4 8 ?");
+        Check.hour(x, "0 10 1 20 2 20 4 20", "22 22 1 4 1 20");
+        Check.due("an hour ahead of its SINCE", Check.told(x, 0), "7 2 0 4 8 ?");
     }
 
     private static void agreed() {
         BuoyString x = Check.loaded("terms 5 2 2;buoy 0 1 9;buoy 1 1 9;buoy 2 1 0;buoy 3 1 1;rope 1 5;rope 2 5;");
         Check.due("a storm", x.storm(6, 1, 3), 12);
         Check.due("suspect ones", Check.string(x), "0T-1T 2S 3S");
-        hour(x, "0 0 1 2 2 6 3 7", "3 3 1 4 0 1");
+        Check.hour(x, "0 0 1 2 2 6 3 7", "3 3 1 4 0 1");
         Check.due("agreed", x.buoy(2, 6) + " " + x.buoy(3, 6), "1 0");
-        hour(x, "0 0 1 9 2 5 3 5", "3 1 0 4 0 ?");
+        Check.hour(x, "0 0 1 9 2 5 3 5", "3 1 0 4 0 ?");
         Check.due("an hour without a level", x.buoy(2, 6) + " " + x.buoy(3, 6), "1 0");
-        hour(x, "0 0 1 0 3 -5", "3 3 1 3 0 0");
+        Check.hour(x, "0 0 1 0 3 -5", "3 3 1 3 0 0");
         Check.due("an hour without buoy 2", x.buoy(2, 6) + " " + x.buoy(3, 6), "1 1");
-        hour(x, "0 0 1 0 2 6 3 6", "3 3 1 4 0 0");
+        Check.hour(x, "0 0 1 0 2 6 3 6", "3 3 1 4 0 0");
         Check.due("both are off", x.buoy(2, 6) + " " + x.buoy(3, 6), "0 0");
-        hour(x, "0 0 1 0 2 -5 3 0", "3 3 1 4 0 0");
-        hour(x, "0 0 1 0 2 0 3 6", "3 3 1 4 0 0");
+        Check.hour(x, "0 0 1 0 2 -5 3 0", "3 3 1 4 0 0");
+        Check.hour(x, "0 0 1 0 2 0 3 6", "3 3 1 4 0 0");
         Check.due("buoy 2 is trusted again", Check.string(x) + x.buoy(2, 6) + x.buoy(3, 6), "0T-1T 2T 3S00");
         Check.due("it was suspect then", x.why(6 - 1, 2), 2);
-        hour(x, "0 0 1 0 2 0 3 0", "7 7 1 4 0 0");
+        Check.hour(x, "0 0 1 0 2 0 3 0", "7 7 1 4 0 0");
         Check.due("buoy 3 agreed once", x.buoy(3, 6), 1);
         x.setTerms(5, 2, 1);
         Check.due("CALM alone changes nothing", x.buoy(3, 4), 1);
-        hour(x, "0 0 1 9", "3 1 0 2 0 ?");
+        Check.hour(x, "0 0 1 9", "3 1 0 2 0 ?");
         Check.due("an hour without a level neither", x.buoy(3, 4), 1);
-        hour(x, "0 0 1 0", "3 3 1 2 0 0");
+        Check.hour(x, "0 0 1 0", "3 3 1 2 0 0");
         Check.due("an hour with a level does, though it did not report", x.buoy(3, 4) + " " + x.buoy(3, 6), "0 0");
     }
 
@@ -298,7 +288,7 @@ public final class HoursTest {
         x.storm(2, 2, 3);
         Check.play(x, "hour 0 0 1 4 2 8 3 8;hour 0 0 1 100 2 200;hour 1 5;hour;");
         String before = Check.everything(x);
-        Check.due("hour 0", told(x, 0), "7 3 1 4 0 1");
+        Check.due("hour 0", Check.told(x, 0), "7 3 1 4 0 1");
         Check.due("levelWithout()", x.levelWithout(0, 0) + " " + x.levelWithout(0, 1) + " " + x.levelWithout(0, 4) + " "
                 + x.levelWithout(0, 5) + " " + x.levelWithout(0, 3), "1 6 1 4 8");
         Check.due("members that do not matter", x.levelWithout(0, 8 + 1024 + 65536 + 1) + " "
@@ -316,7 +306,7 @@ public final class HoursTest {
         Check.refused("needed(4)", Check.INDEX, () -> x.needed(4));
         Check.due("nothing changes", Check.everything(x), before);
         x.setTerms(3, 9, 9);
-        Check.due("hour 0 stays", told(x, 0), "7 3 1 4 0 1");
+        Check.due("hour 0 stays", Check.told(x, 0), "7 3 1 4 0 1");
         Check.refused("levelWithout() with TOLERANCE as it is now", Check.NO_ELEMENT, () -> x.levelWithout(0, 0));
         Check.due("levelWithout(0, 1)", Check.answer(() -> x.levelWithout(0, 1)),
                 "throws java.util.NoSuchElementException");

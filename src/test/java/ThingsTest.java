@@ -96,18 +96,14 @@ public final class ThingsTest {
         Check.refused("rope(1, -1)", Check.ARGUMENT, () -> x.rope(1, -1));
     }
 
-    private static String accounts(BuoyString x) {
-        return x.account(0) + " " + x.account(1) + " " + x.account(2) + " " + x.account(3) + " " + x.account(4);
-    }
-
     private static void account() {
         BuoyString x = new BuoyString();
-        Check.due("accounts at first", accounts(x), "0 0 0 0 0");
+        Check.due("accounts at first", Check.accounts(x), "0 0 0 0 0");
         x.report(0, 1);
         x.endHour();
         x.storm(1, 0, 1);
         x.remake(0);
-        Check.due("accounts", accounts(x), "3 0 1 0 0");
+        Check.due("accounts", Check.accounts(x), "3 0 1 0 0");
         x.addStock(100);
         x.remake(0);
         x.remake(0);
@@ -117,23 +113,23 @@ public final class ThingsTest {
         x.setOffset(0, 1);
         x.setHold(0, 1);
         x.setTerms(1, 1, 1);
-        Check.due("accounts", accounts(x), "9 2 1 1 0");
+        Check.due("accounts", Check.accounts(x), "9 2 1 1 0");
         for (int i = 0; i < 10; i++) {
             x.addStock(9999);
         }
         x.addStock(9);
         x.addStock(10);
-        Check.due("accounts", accounts(x), "20 2 1 1 1");
+        Check.due("accounts", Check.accounts(x), "20 2 1 1 1");
         x.undo();
         x.undo();
         Check.answer(() -> x.report(9, 9));
         Check.answer(() -> x.report(0, 99999));
-        Check.due("accounts behind undo() and exceptions", accounts(x), "20 2 1 1 1");
+        Check.due("accounts behind undo() and exceptions", Check.accounts(x), "20 2 1 1 1");
         x.save(0);
         x.restore(0);
         x.load();
         x.play();
-        Check.due("accounts behind other calls", accounts(x), "20 2 1 1 1");
+        Check.due("accounts behind other calls", Check.accounts(x), "20 2 1 1 1");
         Check.refused("account(-1)", Check.ARGUMENT, () -> x.account(-1));
         Check.refused("account(5)", Check.ARGUMENT, () -> x.account(5));
         Check.refused("account(least)", Check.ARGUMENT, () -> x.account(Integer.MIN_VALUE));
