@@ -117,8 +117,11 @@ public final class PromisesFrom1Test {
         Check.refused("11 bytes to 490", Check.STATE, () -> x.append(SPACES, SPACES, 0x202020, 0, 0));
         Check.due("nothing was appended", x.append(0, 0, 0, 0, 0), 490);
         Check.due("10 bytes to 490", x.append(SPACES, SPACES, 0x2020, 0, 0), 500);
-        Check.refused("one byte to 500", Check.STATE, () -> x.append(0, 0, 0, 0, 1));
         Check.refused("one byte to 500", Check.STATE, () -> x.append(LEAST, 0, 0, 0, 0));
+        Check.refused("one byte to 500", Check.STATE, () -> x.append(0, 0x10000, 0, 0, 0));
+        Check.refused("one byte to 500", Check.STATE, () -> x.append(0, 0, 0x100, 0, 0));
+        Check.refused("one byte to 500", Check.STATE, () -> x.append(0, 0, 0, 0x100, 0));
+        Check.refused("one byte to 500", Check.STATE, () -> x.append(0, 0, 0, 0, 1));
         Check.due("the text is as it was", x.play() + " " + x.errorCode(), "0 0");
     }
 
@@ -192,10 +195,15 @@ public final class PromisesFrom1Test {
         Check.due("the first one is refused", Check.play(x, "haul 0;hour;haul 0;") + " " + x.size(1), "0 1");
         Check.due("one refusal", Check.accounts(x), "1 2 0 0 0");
         Check.due("the last one is refused", Check.play(x, "stock 5;hour;plan 99;") + " " + x.size(1), "2 2");
-        Check.due("acts that answer 0", Check.play(x, "plan 1;storm 1 0 0;hour;"), 3);
+        Check.due("acts that answer 0 are no refusals", actsThatAnswer0(), "6 0");
         Check.due("the eleventh one is refused", Check.play(x, "stock 9999;".repeat(12)) + " " + x.account(4),
                 "10 1");
         Check.due("the STOCK", x.size(7), 99995);
+    }
+
+    private static String actsThatAnswer0() {
+        BuoyString x = Check.loaded("terms 5 1 2;buoy 0 1 9;buoy 1 1 9;buoy 2 1 9;stock 1;");
+        return Check.play(x, "storm 1 0 1;remake 0;plan 1;hour 0 0 1 0 2 50;haul 2;hour;") + " " + x.size(7);
     }
 
     private static void textIsEmptyBehindPlay() {

@@ -248,6 +248,15 @@ public final class PromisesFrom41Test {
         undone(x, "endHour() that drags one", () -> x.endHour());
         x.haul(3);
         x.report(3, 0);
+        x.setTerms(5, 9, 9);
+        undone(x, "endHour() by which one agrees", () -> x.endHour());
+        x.endHour();
+        Check.due("it agrees", x.buoy(3, 6), 1);
+        undone(x, "storm() by which it drifts", () -> x.storm(99, 3, 3));
+        x.setTerms(5, 9, 1);
+        x.report(3, 0);
+        x.report(0, 0);
+        x.report(1, 0);
         undone(x, "endHour() that trusts one", () -> x.endHour());
     }
 
@@ -289,6 +298,16 @@ public final class PromisesFrom41Test {
         x.undo();
         x.undo();
         Check.due("everything behind three", Check.world(x), world);
+        BuoyString y = Check.stringOf(5);
+        y.storm(11, 3, 4);
+        y.setTerms(5, 1, 9);
+        Check.play(y, "hour 0 0 1 0 2 0 3 90 4 0;hour 0 0 1 0 2 0 3 90 4 0;" + "hour 0 0 1 0;".repeat(22));
+        world = Check.world(y);
+        Check.play(y, "hour;hour;");
+        y.undo();
+        y.undo();
+        Check.due("hours with one taken out, one dragged, one suspect", Check.world(y), world);
+        Check.due("why()", "" + y.why(0, 3) + y.why(1, 3) + y.why(0, 4), "532");
     }
 
     private static void saveIsNoAct() {
@@ -344,12 +363,30 @@ public final class PromisesFrom41Test {
         x.report(2, 2);
         Check.due("much is different", Check.world(x).equals(world), false);
         Check.due("restore(1)", x.restore(1) + " " + Check.world(x), "4 " + world);
-        BuoyString y = Check.stringOf(2);
-        Check.play(y, "hour 0 7;" + "hour;".repeat(23));
-        world = Check.world(y);
-        y.save(0);
-        Check.play(y, "hour 1 8;".repeat(30));
-        Check.due("hours that were no more kept", y.restore(0) + " " + Check.world(y), "2 " + world);
+        saveKeepsItsHours();
+    }
+
+    /** 24 hours with values of trusted, suspect and dragged buoys, some of them taken out. */
+    private static void saveKeepsItsHours() {
+        BuoyString x = Check.stringOf(5);
+        x.setTerms(5, 2, 9);
+        x.storm(11, 3, 4);
+        for (int h = 0; h < 24; h++) {
+            Check.play(x, "hour 0 " + h + " 1 " + (h + 1) + " 2 " + (h + 2) + " 3 " + (h < 2 ? 90 : h) + " 4 99;");
+        }
+        Check.due("why() of two hours", "" + x.why(1, 3) + x.why(1, 4) + x.why(23, 3) + x.why(23, 4), "5232");
+        String world = Check.world(x);
+        x.save(0);
+        Check.play(x, "hour 1 8;".repeat(24));
+        String later = Check.world(x);
+        x.save(1);
+        Check.due("hours that were no more kept", x.restore(0) + " " + Check.world(x), "5 " + world);
+        Check.due("later hours", x.restore(1) + " " + Check.world(x), "5 " + later);
+        Check.type(x, Check.setupOf(5));
+        x.load();
+        Check.play(x, "hour 0 1 1 1 2 1 3 1 4 1;".repeat(15));
+        Check.play(x, "hour 4 1 3 1 2 1 1 1 0 1;".repeat(15));
+        Check.due("behind load()", x.restore(0) + " " + Check.world(x), "5 " + world);
     }
 
     private static void restoreStaysSaved() {

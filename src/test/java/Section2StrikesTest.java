@@ -15,6 +15,7 @@ public final class Section2StrikesTest {
         limitMadeLess();
         strikesAndSinceStay();
         notDraggedWithoutLevel();
+        firstAndLastBuoy();
         takenOutFromSinceOn();
         takenOutWhereItVoted();
         takenOutOfKeptHoursOnly();
@@ -217,6 +218,22 @@ public final class Section2StrikesTest {
         Check.due("a voter with enough STRIKES", strikes(x, 2) + " " + x.size(14), "0 2 0 0");
         Check.hour(x, "0 0 1 0 2 50", "3 3 1 3 4 0");
         Check.due("an hour with a level", strikes(x, 2), "2 3 0");
+    }
+
+    private static void firstAndLastBuoy() {
+        Check.edge("Section 2 (5)", "each suspect buoy ... Each voter (the first one and the last one of ten)");
+        BuoyString x = Check.stringOf(10);
+        Check.play(x, "hour 0 50 1 0 2 0 3 0 4 0 5 0 6 0 7 0 8 0 9 90;".repeat(2));
+        Check.due("both are dragged", Check.string(x), "0D-1T-2T-3T-4T-5T-6T-7T-8T-9D");
+        Check.due("both are taken out of both hours", Check.told(x, 0) + ", " + Check.told(x, 1),
+                "510 510 1 10 513 0, 510 510 1 10 513 0");
+        x.haul(0);
+        x.haul(9);
+        Check.play(x, "hour 0 0 1 0 2 0 9 5;");
+        Check.due("both agree", Check.buoy(x, 0, 4, 6) + ", " + Check.buoy(x, 9, 4, 6), "1 1, 1 1");
+        Check.play(x, "hour 0 0 1 0 2 0 9 5;");
+        Check.due("both are trusted", Check.string(x), "0T-1T-2T-3T-4T-5T-6T-7T-8T-9T");
+        Check.due("the storm makes both suspect", x.storm(99, 0, 0) + " " + x.buoy(0, 4) + x.buoy(9, 4), "1023 11");
     }
 
     private static void takenOutFromSinceOn() {

@@ -235,6 +235,22 @@ public final class Section2Test {
         x.endHour();
         Check.refused("hour 24", Check.INDEX, () -> x.level(24));
         Check.due("49 hours", x.size(2) + " " + x.level(25), "24 125");
+        placeOfAnOlderHour();
+    }
+
+    private static void placeOfAnOlderHour() {
+        BuoyString x = Check.stringOf(5);
+        x.setTerms(5, 1, 9);
+        x.storm(11, 3, 4);
+        Check.hour(x, "0 0 1 0 2 50 4 0", "3 3 1 4 4 0");
+        Check.hour(x, "0 0 1 0 2 50 4 0", "3 3 1 4 0 0");
+        x.haul(2);
+        Check.play(x, "hour;".repeat(22));
+        Check.hour(x, "2 7", "0 0 0 1 0 ?");
+        Check.due("why() of hour 24", "" + x.why(24, 0) + x.why(24, 1) + x.why(24, 2) + x.why(24, 4), "1121");
+        Check.hour(x, "0 7 2 7 3 8", "9 9 1 3 0 7");
+        Check.due("why() of hour 25", "" + x.why(25, 0) + x.why(25, 1) + x.why(25, 2) + x.why(25, 3) + x.why(25, 4),
+                "01201");
     }
 
     private static void nextHourRuns() {

@@ -79,6 +79,13 @@ public final class Section5Test {
         Check.loadError("terms 5 22;", 2, 8);
         Check.loadError("terms 1 000 2;", 2, 8);
         Check.loadError(TWO + "stockk 5;", 1, END_OF_TWO);
+        Check.loadError("xerms 5 2 2;", 1, 0);
+        Check.loadError("termx 5 2 2;", 1, 0);
+        for (String word : new String[] {"xtorm 1 0 1;", "storx 1 0 1;", "xemake 0;", "remakx 0;", "xlan 1;",
+                "plax 1;",
+            "xaul 0;", "haux 0;", "xtock 1;", "stocx 1;", "xour;", "houx;"}) {
+            Check.playError(new BuoyString(), word, 1, 0);
+        }
         BuoyString x = Check.stringOf(10);
         Check.playError(x, "hour 01 5 1 5;", 3, 10);
         Check.playError(x, "hour 10 5;", 2, 5);
@@ -407,6 +414,10 @@ public final class Section5Test {
         Check.playError(x, "hour 0 5 0", 3, 9);
         Check.playError(x, "hour 2 5 1 5 0 5 2 5;", 3, 17);
         Check.due("the same buoy in two hours", Check.play(x, "hour 0 5;hour 0 5;"), 2);
+        BuoyString ten = Check.stringOf(10);
+        Check.playError(ten, "hour 0 1 1 1 2 1 3 1 4 1 5 1 6 1 7 1 8 1 9 1 0", 3, 45);
+        Check.playError(ten, "hour 0 1 1 1 2 1 3 1 4 1 5 1 6 1 7 1 8 1 9 1 9 1;", 3, 45);
+        Check.playError(ten, "hour 0 1 1 1 2 1 3 1 4 1 5 1 6 1 7 1 8 1 9 1 10 1;", 2, 45);
     }
 
     private static void code4() {
