@@ -19,6 +19,7 @@ public final class Section2Test {
         roundedDown();
         hourIsKept();
         latest24();
+        allOf24();
         nextHourRuns();
         Check.end("Section2Test");
     }
@@ -236,6 +237,23 @@ public final class Section2Test {
         Check.refused("hour 24", Check.INDEX, () -> x.level(24));
         Check.due("49 hours", x.size(2) + " " + x.level(25), "24 125");
         placeOfAnOlderHour();
+    }
+
+    private static void allOf24() {
+        Check.edge("Section 2 (6)", "The latest 24 hours that ended are kept (ten buoys, all values)");
+        BuoyString x = Check.stringOf(10);
+        x.setTerms(999, 9, 9);
+        for (int h = 0; h < 30; h++) {
+            for (int b = 0; b < 10; b++) {
+                x.report(b, 10 * h + b + 1);
+            }
+            x.endHour();
+            for (int k = Math.max(0, h - 23); k <= h; k++) {
+                for (int b = 0; b < 10; b++) {
+                    Check.due("value(" + k + ", " + b + ") behind hour " + h, x.value(k, b), 10 * k + b + 1);
+                }
+            }
+        }
     }
 
     private static void placeOfAnOlderHour() {
