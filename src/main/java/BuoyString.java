@@ -1480,42 +1480,43 @@ public final class BuoyString {
         }
 
         boolean hasMore() {
-            return code == 0 && kinds[at] != END;
+            return code == 0 && kindNow() != END;
         }
 
         int kindNow() {
-            return kinds[at];
+            return at >= 0 && at < kinds.length ? kinds[at] : END;
         }
 
         boolean isAtSigned() {
-            return kinds[at] == NUMBER || kinds[at] == MINUS;
+            return kindNow() == NUMBER || kindNow() == MINUS;
         }
 
         /** Only the first error counts: behind it nothing is taken. */
         void fail(int itsCode) {
             if (code == 0) {
                 code = itsCode;
-                position = starts[at];
+                position = at >= 0 && at < starts.length ? starts[at] : length;
             }
         }
 
         void takeKind(int kind) {
-            if (kinds[at] != kind) {
+            if (kindNow() != kind) {
                 fail(WRONG_TOKEN);
             }
-            if (code == 0 && kinds[at] != END) {
+            if (code == 0 && kindNow() != END) {
                 at++;
             }
         }
 
         /** The number that stands here, which is not taken yet; the least one if it is wrong. */
         int lookNumber(int least, int most) {
-            if (kinds[at] != NUMBER) {
+            int number = kindNow() == NUMBER ? numbers[at] : least;
+            if (kindNow() != NUMBER) {
                 fail(WRONG_TOKEN);
-            } else if (numbers[at] < least || numbers[at] > most) {
+            } else if (number < least || number > most) {
                 fail(WRONG_RANGE);
             }
-            return code == 0 ? numbers[at] : least;
+            return code == 0 ? number : least;
         }
 
         int takeNumber(int least, int most) {
@@ -1525,7 +1526,7 @@ public final class BuoyString {
         }
 
         int takeSigned(int most) {
-            boolean isNegative = kinds[at] == MINUS;
+            boolean isNegative = kindNow() == MINUS;
             if (isNegative) {
                 takeKind(MINUS);
             }
